@@ -657,7 +657,7 @@ public final class PlainPacks {
                 code = code << 1 | source.bit();
                 first <<= 1;
                 int at = code - first;
-                if (at < counts[length]) {
+                if (at >= 0 && at < counts[length]) {
                     return letters[behind + at];
                 }
                 wrongIf(code << DEEPEST - length >= space);
@@ -747,7 +747,7 @@ public final class PlainPacks {
         private int size;
         private int ranks;
 
-        /** Sorts by 1 byte, then by twice as many each time, until all differ or all is compared. */
+        /** Sorts by 1 byte, then by twice as many, until all differ or all is compared. */
         void sort(int[] bytes, int n) {
             size = Math.min(n, Math.min(bytes.length, TEXT_MOST));
             for (int i = 0; i < size; i++) {
@@ -772,7 +772,9 @@ public final class PlainPacks {
 
         /** Keeps the order of spareOrder among those of one rank. */
         private void orderByRank(int kinds) {
-            Arrays.fill(counts, 0);
+            for (int k = 0; k <= kinds && k < counts.length; k++) {
+                counts[k] = 0;
+            }
             for (int i = 0; i < size; i++) {
                 counts[rank[i] + 1]++;
             }
