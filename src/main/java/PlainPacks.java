@@ -293,10 +293,8 @@ public final class PlainPacks {
     /** The place of the highest 1 of v, which is above 0. */
     private static int topBit(int v) {
         int top = 0;
-        for (int k = 1; k < 31; k++) {
-            if (v >> k != 0) {
-                top = k;
-            }
+        for (int left = v >> 1; left > 0; left >>= 1) {
+            top++;
         }
         return top;
     }
