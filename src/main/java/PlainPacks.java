@@ -1958,19 +1958,19 @@ public final class PlainPacks {
 
         // Where the contexts of each kind begin; [STATE, p] is at 16 * STATE + p.
         private static final int IS_MATCH = 0;
-        private static final int IS_REPEAT = 192;
-        private static final int NOT_R0 = 204;
-        private static final int R0_LONG = 216;
-        private static final int NOT_R1 = 408;
-        private static final int NOT_R2 = 420;
-        private static final int MATCH_LENGTH = 432;
-        private static final int REPEAT_LENGTH = 946;
-        private static final int SLOTS = 1460;
-        private static final int TURNED = 1716;
-        private static final int LOWEST_FOUR = 2036;
-        private static final int BYTES = 2052;
-        private static final int BYTE_FAMILY = 768;
-        private static final int ALL = 14340;
+        private static final int IS_REPEAT = IS_MATCH + 192;
+        private static final int NOT_R0 = IS_REPEAT + 12;
+        private static final int NOT_R1 = NOT_R0 + 12;
+        private static final int NOT_R2 = NOT_R1 + 12;
+        private static final int R0_LONG = NOT_R2 + 12;
+        private static final int MATCH_LENGTH = R0_LONG + 192;
+        private static final int REPEAT_LENGTH = MATCH_LENGTH + 514;
+        private static final int SLOTS = REPEAT_LENGTH + 514;
+        private static final int TURNED = SLOTS + 4 * 64;
+        private static final int LOWEST_FOUR = TURNED + 10 * 32;
+        private static final int BYTES = LOWEST_FOUR + 16;
+        private static final int BYTE_FAMILY = 3 * 256;
+        private static final int ALL = BYTES + 16 * BYTE_FAMILY;
 
         private final Source source;
         private final Sink sink;

@@ -33,6 +33,7 @@ public final class PackTest {
         runs();
         blocks();
         words();
+        lastWords();
         pieces();
         frames();
         tags();
@@ -127,6 +128,30 @@ public final class PackTest {
         }
     }
 
+    /** No two bytes in a row stand twice, until there are words for all but the last of them. */
+    private static void lastWords() {
+        byte[] tape = new byte[3844];
+        for (int i = 1; i < 3840; i++) {
+            tape[i] = (byte) (tape[i - 1] + 1 + (i - 1) / 256 * 2);
+        }
+        // The two of word 4095 again, then the two that come too late to be a word.
+        System.arraycopy(tape, 3837, tape, 3840, 2);
+        System.arraycopy(tape, 3838, tape, 3842, 2);
+        for (int form = 4; form <= 5; form++) {
+            Check.Bits bits = new Check.Bits(form == 5).number(256, 9);
+            int width = 9;
+            int next = 258;
+            for (int i = 0; i < 3840; i++) {
+                bits.number(tape[i] & 255, width);
+                next += i > 0 && next < 4096 ? 1 : 0;
+                width = width < 12 && next + form - 4 >= 1 << width ? width + 1 : width;
+            }
+            bits.number(4095, 12).number(tape[3842] & 255, 12).number(tape[3843] & 255, 12)
+                .number(257, 12);
+            duePack(form, tape, Check.join(Check.bytes(form == 4 ? "08" : ""), bits.bytes()));
+        }
+    }
+
     private static void pieces() {
         // A match may begin at 12 places before the end, and ends 5 before it.
         duePack(6, as(12), Check.join(Check.bytes("c0"), as(12)));
@@ -171,6 +196,7 @@ public final class PackTest {
         duePack(8, as(1), Check.bytes("01 00 61"));
         duePack(8, as(5), Check.bytes("05 00 61 0e 0100"));
         duePack(8, as(66), Check.bytes("42 00 61 fe 0100 00 61"));
+        duePack(8, as(128), Check.bytes("8001 00 61 fe 0100 fa 0100"));
         duePack(8, as(129), Check.bytes("8101 00 61 fe 0100 fe 0100"));
         int[] sizes = {60, 61, 256, 257};
         String[] heads = {"3c ec", "3d f0 3c", "8002 f0 ff", "8102 f4 0001"};

@@ -329,7 +329,7 @@ public final class WrongTest {
             altered[4] = (byte) flags;
             wrong(7, altered, 5, NOTHING, 0, 0, 0, 0, 0);
         }
-        for (int size : new int[] {0x30, 0x00, 0xC0, 0x41, 0x48}) {
+        for (int size : new int[] {0x30, 0x00, 0x80, 0xC0, 0x41, 0x48}) {
             byte[] altered = right.clone();
             altered[5] = (byte) size;
             wrong(7, altered, 6, NOTHING, 0, 0, 0, 0, 0);
@@ -385,6 +385,10 @@ public final class WrongTest {
         wrong(8, Check.bytes("8080808080 0000"), 5, NOTHING, 0, 0, 0, 0, 0);
         wrong(8, Check.bytes("ffffffff0f 0041"), 5, NOTHING, 0, 0, 0, 0, 0);
         Check.dueOpen(8, Check.bytes("8180808000 0041"), 1, Check.text("A"), 7, 1);
+        byte[] most = Check.join(Check.bytes("808001 0041"), Check.times(255, Check.bytes("fe0100")),
+            Check.bytes("fa0100"));
+        Check.dueOpen(8, most, 16384, Check.times(16384, Check.text("A")), most.length,
+            1, 256, 64, 1, 0);
         // More than n, as soon as the length is known: as they are, and COPIES.
         wrong(8, Check.bytes("01 04 4142"), 2, NOTHING, 0, 0, 0, 0, 0);
         wrong(8, Check.bytes("01 f4 0100 4142"), 4, NOTHING, 0, 0, 0, 0, 0);
@@ -430,11 +434,13 @@ public final class WrongTest {
         wrong(9, Check.join(block().number(0, 24).bytes()), 13, NOTHING, 0, 0, 0, 0, 0);
         wrong(9, Check.join(block().number(0, 32).number(1, 1).bytes(), more), 15, NOTHING,
             0, 0, 0, 0, 1);
-        // No sixteen of bytes, or an empty one.
-        Check.Bits none = block().number(0, 57).number(0, 16);
-        wrong(9, Check.join(none.bytes(), more), sizeOf(none), NOTHING, 0, 0, 0, 0, 1);
-        Check.Bits empty = block().number(0, 57).number(1, 16).number(0, 16);
-        wrong(9, Check.join(empty.bytes(), more), sizeOf(empty), NOTHING, 0, 0, 0, 0, 1);
+        // No sixteen of bytes, or an empty one; what would be right behind it is not read.
+        for (int sixteens = 0; sixteens <= 1; sixteens++) {
+            Check.Bits none = block().number(0, 57).number(sixteens, 16).number(0, 16 * sixteens);
+            int place = sizeOf(none);
+            none.number(2, 3).number(9, 15).number(0, 9).number(0, 16);
+            wrong(9, Check.join(none.bytes(), more), place, NOTHING, 0, 0, 0, 0, 1);
+        }
     }
 
     /** A block up to TABLES in which two bytes occur, 'a' and 'b'. */
@@ -456,6 +462,8 @@ public final class WrongTest {
         // A selector of two tables by two 1s, of six by six.
         wrongBits(twoBytes(0, 0).number(2, 3).number(1, 15).code("11"), NOTHING);
         wrongBits(twoBytes(0, 0).number(6, 3).number(2, 15).code("111110 111111"), NOTHING);
+        // The second 1 ends a byte: no bit behind it is read.
+        wrongBits(twoBytes(0, 0).number(2, 3).number(4, 15).code("0 0 0 11"), NOTHING);
         for (int length : new int[] {0, 21, 31}) {
             wrongBits(twoBytes(0, 0).number(2, 3).number(1, 15).code("0").number(length, 5),
                 NOTHING, 0, 0, 0, 0, 1);
@@ -605,10 +613,28 @@ public final class WrongTest {
         for (int i = 0; i < 60; i++) {
             most.repeat(i == 0 ? 0 : i == 1 ? 8 : 11, 0, 273);
         }
-        byte[] full = most.repeat(11, 0, 3).repeat(11, 0, 2).tape(-1);
+        byte[] told = most.repeat(11, 0, 3).tape(16384);
+        Check.dueOpen(10, told, 16384, Check.times(16384, Check.text("a")), told.length,
+            1, 61, 273, 1, 0);
+        byte[] full = most.repeat(11, 0, 2).tape(-1);
         PlainPacks x = Check.with(Check.join(full, Check.bytes("00")));
         Check.due("cut by 16384", x.open(10), -1 - x.told(0));
         Check.due("all the same told of", x.told(2), 62);
         Check.due("16384 bytes", x.count(1), 16384);
+        manySingles();
+    }
+
+    /** As many codes as bytes, and then the end, or one more. */
+    private static void manySingles() {
+        Ranges singles = new Ranges().letter(0, 97);
+        for (int i = 0; i < 16383; i++) {
+            singles.repeat(i == 0 ? 0 : i == 1 ? 9 : 11, -1, 1);
+        }
+        byte[] ended = singles.match(11, 2, 1L << 32).tape(-1);
+        byte[] most = Check.times(16384, Check.text("a"));
+        Check.dueOpen(10, ended, 16384, most, ended.length, 1, 16383, 1, 1, 0);
+        // The last plain bit of 145 is 1, and all behind it are 0: V is just RANGE there.
+        byte[] even = new Ranges().letter(0, 97).repeat(0, 0, 273).match(8, 2, 145).tape(276);
+        Check.dueOpen(10, even, 276, Check.times(276, Check.text("a")), even.length, 1, 2, 273, 145);
     }
 }
