@@ -183,10 +183,16 @@ public final class PackTest {
     }
 
     private static void frames() {
-        // 13 bytes are 10 as pieces; 4 are not fewer.
+        // 13 bytes are 10 as pieces, 4 are 5.
         byte[] xx = Check.low(Check.with(as(13)).sum(3), 4);
         duePack(7, as(13), Check.join(Check.bytes("04224d186440a7 0a000000 13 61 0100 50"), as(5),
             Check.bytes("00000000"), xx));
+        // A COPY of four saves just what it costs: 16 bytes are 16 as pieces.
+        byte[] even = Check.text("wxyzwxyzABCDEFGH");
+        duePack(6, even, Check.join(Check.bytes("40"), Check.text("wxyz"), Check.bytes("0400 80"),
+            Check.text("ABCDEFGH")));
+        duePack(7, even, Check.join(Check.bytes("04224d186440a7 10000080"), even,
+            Check.bytes("00000000"), Check.low(Check.with(even).sum(3), 4)));
         byte[] other = Check.low(Check.with(as(4)).sum(3), 4);
         duePack(7, as(4), Check.join(Check.bytes("04224d186440a7 04000080"), as(4),
             Check.bytes("00000000"), other));
