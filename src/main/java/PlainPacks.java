@@ -134,7 +134,19 @@ public final class PlainPacks {
     public int pack(int form) throws IllegalArgumentException {
         needForm(form);
         writer.start();
-        write(form);
+        switch (form) {
+            case 0: pieces.writeRuns(); break;
+            case 1: blocks.writeBlock(); break;
+            case 2: blocks.writeWrapped(); break;
+            case 3: blocks.writeFile(); break;
+            case 4: words.writeLow(); break;
+            case 5: words.writeHigh(); break;
+            case 6: pieces.writePieces(); break;
+            case 7: pieces.writeFrame(); break;
+            case 8: pieces.writeTags(); break;
+            case 9: sorted.writeSorted(); break;
+            default: chances.writeChances(); break;
+        }
         if (writer.over) {
             return -1;
         }
@@ -196,22 +208,6 @@ public final class PlainPacks {
     private static void needForm(int form) {
         if (form < 0 || form > LAST_FORM) {
             throw new IllegalArgumentException("no such form");
-        }
-    }
-
-    private void write(int form) {
-        switch (form) {
-            case 0: pieces.writeRuns(); break;
-            case 1: blocks.writeBlock(); break;
-            case 2: blocks.writeWrapped(); break;
-            case 3: blocks.writeFile(); break;
-            case 4: words.writeLow(); break;
-            case 5: words.writeHigh(); break;
-            case 6: pieces.writePieces(); break;
-            case 7: pieces.writeFrame(); break;
-            case 8: pieces.writeTags(); break;
-            case 9: sorted.writeSorted(); break;
-            default: chances.writeChances(); break;
         }
     }
 
@@ -553,7 +549,9 @@ public final class PlainPacks {
             held |= highFirst ? b << 7 - filled : b << filled;
             filled++;
             if (filled == 8) {
-                closeByte();
+                put(held);
+                held = 0;
+                filled = 0;
             }
         }
 
@@ -1042,7 +1040,8 @@ public final class PlainPacks {
             while (at < source.size) {
                 finder.find(at, LONGEST);
                 if (finder.best >= 3) {
-                    writeLength(finder.best);
+                    writeLetter(letterOf(finder.best));
+                    writer.bits(finder.best - 3, lengthExtra(finder.best));
                     writeDistance(finder.away);
                     at += finder.best;
                 } else {
@@ -1064,11 +1063,6 @@ public final class PlainPacks {
             } else {
                 writer.code(192 + letter - 280, 8);
             }
-        }
-
-        private void writeLength(int length) {
-            writeLetter(letterOf(length));
-            writer.bits(length - 3, lengthExtra(length));
         }
 
         private void writeDistance(int distance) {
