@@ -5,8 +5,8 @@ import java.util.zip.CRC32;
 
 /**
  * Promises 6, 7 and 9 on many tapes, right and wrong. The answers in src/test/data/cases.txt come
- * from a second program, which was written from the document alone in another language. A row:
- * open, form, tape, answer, told(0) to told(5), the output's length and CRC; or: pack, form, tape,
+ * from a second program, written apart from this one in another language, by the same reading of
+ * the document. A row: open, form, tape, answer, told(0) to told(5), the output's length and CRC; or: pack, form, tape,
  * answer, the output's CRC. A tape of no bytes is written as -.
  */
 public final class CasesTest {
