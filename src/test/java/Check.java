@@ -1,5 +1,6 @@
 import java.io.ByteArrayOutputStream;
 import java.util.Arrays;
+import java.util.zip.CRC32;
 
 /** What the tests share: tapes from bytes, answers that are due, and the end of a test. */
 final class Check {
@@ -10,23 +11,43 @@ final class Check {
 
     private static int wrong = 0;
     private static int asked = 0;
+    private static String edge = "";
+    private static int askedBeforeEdge = 0;
+    private static int edges = 0;
 
     private Check() {
+    }
+
+    /** What is asked from here on tests one sentence of the document; it must be asked of. */
+    static void edge(String sentence) {
+        closeEdge();
+        edge = sentence;
+        askedBeforeEdge = asked;
+        edges++;
+    }
+
+    private static void closeEdge() {
+        if (edges > 0 && asked == askedBeforeEdge) {
+            tellWrong("nothing was asked");
+        }
+    }
+
+    private static void tellWrong(String what) {
+        wrong++;
+        System.out.println((edge.isEmpty() ? "" : "\"" + edge + "\": ") + what);
     }
 
     static void due(String call, long got, long want) {
         asked++;
         if (got != want) {
-            wrong++;
-            System.out.println(call + " answered " + got + ", due is " + want);
+            tellWrong(call + " answered " + got + ", due is " + want);
         }
     }
 
     static void due(String call, byte[] got, byte[] want) {
         asked++;
         if (!Arrays.equals(got, want)) {
-            wrong++;
-            System.out.println(call + " gave " + shortHex(got) + ", due is " + shortHex(want));
+            tellWrong(call + " gave " + shortHex(got) + ", due is " + shortHex(want));
         }
     }
 
@@ -42,12 +63,13 @@ final class Check {
             }
             got = "threw " + e.getClass().getName();
         }
-        wrong++;
-        System.out.println(call + " " + got + ", due is " + want.getName());
+        tellWrong(call + " " + got + ", due is " + want.getName());
     }
 
     static void finish(String test) {
-        System.out.println(test + ": " + asked + " asked, " + wrong + " wrong");
+        closeEdge();
+        System.out.println(test + ": " + (edges > 0 ? edges + " edges, " : "") + asked
+            + " asked, " + wrong + " wrong");
         if (wrong != 0 || asked == 0) {
             System.exit(1);
         }
@@ -94,6 +116,50 @@ final class Check {
         return all;
     }
 
+    /** Bytes of many kinds, hardly any three of which stand twice. */
+    static byte[] some(int n) {
+        byte[] b = new byte[n];
+        int r = 12345;
+        for (int i = 0; i < n; i++) {
+            r = r * 1103515245 + 12345;
+            b[i] = (byte) (r >>> 16);
+        }
+        return b;
+    }
+
+    /** Bytes from 144 on, no three in a row of which stand twice among 10000. */
+    static byte[] highDiffering(int n) {
+        byte[] b = new byte[n];
+        for (int i = 0; i < n; i++) {
+            b[i] = (byte) (i % 2 == 0 ? 144 + i / 2 % 112 : 255 - i / 224);
+        }
+        return b;
+    }
+
+    /** CODES by LENGTHS, as 0s and 1s; null where there is none. */
+    static String[] codes(int... lengths) {
+        String[] all = new String[lengths.length];
+        int next = 0;
+        for (int length = 1; length <= 20; length++) {
+            next <<= 1;
+            for (int i = 0; i < lengths.length; i++) {
+                if (lengths[i] == length) {
+                    all[i] = binary(next, length);
+                    next++;
+                }
+            }
+        }
+        return all;
+    }
+
+    static String binary(int value, int n) {
+        StringBuilder s = new StringBuilder();
+        for (int i = n - 1; i >= 0; i--) {
+            s.append(value >> i & 1);
+        }
+        return s.toString();
+    }
+
     static byte[] low(long number, int n) {
         byte[] b = new byte[n];
         for (int i = 0; i < n; i++) {
@@ -108,6 +174,58 @@ final class Check {
             b[n - 1 - i] = (byte) (number >>> 8 * i);
         }
         return b;
+    }
+
+    /** CRC-H by Java's CRC: the same with all bits of bytes and sum the other way round. */
+    static int crcHigh(byte[] bytes) {
+        CRC32 crc = new CRC32();
+        for (byte b : bytes) {
+            crc.update(Integer.reverse(b) >>> 24);
+        }
+        return Integer.reverse((int) crc.getValue());
+    }
+
+    /** XX with numbers that are cut to 32 bits each time. */
+    static int xx(byte[] bytes) {
+        long[] p = {0, 0x9E3779B1L, 0x85EBCA77L, 0xC2B2AE3DL, 0x27D4EB2FL, 0x165667B1L};
+        int n = bytes.length;
+        int at = 0;
+        long h = p[5];
+        if (n >= 16) {
+            long[] v = {cut(p[1] + p[2]), p[2], 0, cut(-p[1])};
+            for (; at + 16 <= n; at += 16) {
+                for (int i = 0; i < 4; i++) {
+                    v[i] = cut(left(cut(v[i] + word(bytes, at + 4 * i) * p[2]), 13) * p[1]);
+                }
+            }
+            h = cut(left(v[0], 1) + left(v[1], 7) + left(v[2], 12) + left(v[3], 18));
+        }
+        h = cut(h + n);
+        for (; at + 4 <= n; at += 4) {
+            h = cut(left(cut(h + word(bytes, at) * p[3]), 17) * p[4]);
+        }
+        for (; at < n; at++) {
+            h = cut(left(cut(h + (bytes[at] & 255) * p[5]), 11) * p[1]);
+        }
+        h = cut((h ^ h >> 15) * p[2]);
+        h = cut((h ^ h >> 13) * p[3]);
+        return (int) (h ^ h >> 16);
+    }
+
+    private static long cut(long x) {
+        return x & 0xFFFFFFFFL;
+    }
+
+    private static long left(long x, int k) {
+        return cut(x << k) + (x >> 32 - k);
+    }
+
+    private static long word(byte[] b, int at) {
+        long w = 0;
+        for (int i = 3; i >= 0; i--) {
+            w = w * 256 + (b[at + i] & 255);
+        }
+        return w;
     }
 
     static String hex(byte[] b) {
@@ -157,6 +275,23 @@ final class Check {
         }
     }
 
+    /** Right, and read to its last byte: its output, and what is told behind told(0). */
+    static void dueRight(int form, byte[] tape, byte[] output, int... told) {
+        dueOpen(form, tape, output.length, output, withRead(tape.length, told));
+    }
+
+    /** Wrong behind so many bytes read, with this output, and what is told behind told(0). */
+    static void dueWrong(int form, byte[] tape, int place, byte[] output, int... told) {
+        dueOpen(form, tape, -1 - place, output, withRead(place, told));
+    }
+
+    private static int[] withRead(int read, int[] told) {
+        int[] all = new int[told.length + 1];
+        all[0] = read;
+        System.arraycopy(told, 0, all, 1, told.length);
+        return all;
+    }
+
     private static String shortHex(byte[] b) {
         String s = hex(b);
         return s.length() <= 120 ? s : s.substring(0, 120) + "..";
@@ -188,6 +323,27 @@ final class Check {
                 bit(value >>> (highFirst ? n - 1 - i : i) & 1);
             }
             return this;
+        }
+
+        /** All that another holds. */
+        Bits all(Bits other) {
+            byte[] whole = other.all.toByteArray();
+            all.write(whole, 0, whole.length);
+            held = other.held;
+            filled = other.filled;
+            return this;
+        }
+
+        /** 0s up to the next byte, if one is begun. */
+        Bits pass() {
+            while (filled > 0) {
+                bit(0);
+            }
+            return this;
+        }
+
+        int size() {
+            return all.size() + (filled > 0 ? 1 : 0);
         }
 
         /** As written, one by one. */

@@ -8,6 +8,11 @@ final class Ranges {
     private BigInteger low = BigInteger.ZERO;
     private long range = 0xFFFFFFFFL;
     private int grown = 0;
+    /** RANGE and how often it had grown before the last plain bit, and at the last 1. */
+    private long rangeAtPlain = 0;
+    private int grownAtPlain = 0;
+    private int grownBeforeOne = 0;
+    private int grownBehindOne = 0;
 
     Ranges bit(String context, int bit) {
         int c = chances.getOrDefault(context, 1024);
@@ -15,12 +20,15 @@ final class Ranges {
         if (bit == 0) {
             range = b;
             chances.put(context, c + (2048 - c) / 32);
-        } else {
-            low = low.add(BigInteger.valueOf(b));
-            range -= b;
-            chances.put(context, c - c / 32);
+            return grow();
         }
-        return grow();
+        low = low.add(BigInteger.valueOf(b));
+        range -= b;
+        chances.put(context, c - c / 32);
+        grownBeforeOne = grown;
+        grow();
+        grownBehindOne = grown;
+        return this;
     }
 
     private Ranges grow() {
@@ -32,7 +40,9 @@ final class Ranges {
         return this;
     }
 
-    private Ranges plain(int bit) {
+    Ranges plain(int bit) {
+        rangeAtPlain = range;
+        grownAtPlain = grown;
         range /= 2;
         if (bit == 1) {
             low = low.add(BigInteger.valueOf(range));
@@ -40,7 +50,7 @@ final class Ranges {
         return grow();
     }
 
-    private Ranges tree(String name, int bits, int value) {
+    Ranges tree(String name, int bits, int value) {
         int k = 1;
         for (int i = bits - 1; i >= 0; i--) {
             bit(name + k, value >> i & 1);
@@ -49,7 +59,7 @@ final class Ranges {
         return this;
     }
 
-    private Ranges turned(String name, int bits, long value) {
+    Ranges turned(String name, int bits, long value) {
         int k = 1;
         for (int i = 0; i < bits; i++) {
             int b = (int) (value >> i & 1);
@@ -126,8 +136,35 @@ final class Ranges {
     }
 
     byte[] tape(int head, long n) {
+        return tape(head, n, low);
+    }
+
+    long range() {
+        return range;
+    }
+
+    /** How many bytes are read by now, with the head, the first of its bytes and V. */
+    int read() {
+        return 18 + grown;
+    }
+
+    /**
+     * If V was RANGE - 1 before the last plain bit, and RANGE odd, V was RANGE behind it: from
+     * there on all bits are 1, as long as it is not below; such a tape leaves V at 2^32 when
+     * RANGE has grown four times more. That is 0, if V is taken modulo 2^32; and the bits behind
+     * it must be 0. Answers null if the bits that were written are not such.
+     */
+    byte[] tapePastTheTop(int head, long n) {
+        int four = grownAtPlain + 4;
+        if (rangeAtPlain % 2 == 0 || grownBeforeOne >= four || grownBehindOne != four) {
+            return null;
+        }
+        return tape(head, n, low.add(BigInteger.ONE.shiftLeft(32 + 8 * (grown - four))));
+    }
+
+    private byte[] tape(int head, long n, BigInteger value) {
         byte[] digits = new byte[grown + 5];
-        BigInteger left = low;
+        BigInteger left = value;
         for (int i = digits.length - 1; i >= 0; i--) {
             digits[i] = left.byteValue();
             left = left.shiftRight(8);

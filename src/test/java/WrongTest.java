@@ -32,10 +32,7 @@ public final class WrongTest {
 
     /** Wrong behind so many bytes read, with this output, and what is told behind told(0). */
     private static void wrong(int form, byte[] tape, int place, byte[] output, int... told) {
-        int[] all = new int[told.length + 1];
-        all[0] = place;
-        System.arraycopy(told, 0, all, 1, told.length);
-        Check.dueOpen(form, tape, -1 - place, output, all);
+        Check.dueWrong(form, tape, place, output, told);
     }
 
     private static void runs() {
