@@ -18,6 +18,7 @@ final class BlockBits {
     private int longest = 0;
     private int farthest = 0;
     private int blocks = 0;
+    private int lastOfRows = 1;
 
     private BlockBits begin(int last, int kind) {
         bits.number(last, 1).number(kind, 2);
@@ -57,9 +58,15 @@ final class BlockBits {
         return begin(last, 1);
     }
 
+    /** Whether blocks of KIND 2 are the LAST from here on; they are at first. */
+    BlockBits last(int last) {
+        lastOfRows = last;
+        return this;
+    }
+
     /** The beginning of a block of KIND 2, up to LENGTHS of the first codes, n of them. */
     BlockBits rows(int letterCount, int distanceCount, int n, int... lengths) {
-        begin(1, 2).bits.number(letterCount - 257, 5).number(distanceCount - 1, 5)
+        begin(lastOfRows, 2).bits.number(letterCount - 257, 5).number(distanceCount - 1, 5)
             .number(n - 4, 4);
         for (int i = 0; i < n; i++) {
             bits.number(FIRST_ROW[i] < lengths.length ? lengths[FIRST_ROW[i]] : 0, 3);

@@ -60,6 +60,17 @@ public final class EdgesOfBlocksTest {
         byte[] storedLast = blocks().stored(0, A).bits.bytes();
         Check.dueWrong(1, storedLast, 6, A, 1, 0, 0, 0, 1);
 
+        // Each block has its own codes: nothing of the one before it stays.
+        int[] steps = lengths(257, 0, 1, 1, 2, 2, 3, 256, 3);
+        int[] eights = new int[257];
+        Arrays.fill(eights, 1, 257, 8);
+        blocks().last(0).rowsOf(lengths(257, 'a', 1, 256, 1), NO_DISTANCE).bytes(A).end()
+            .rowsOf(steps, new int[] {1}).bytes((byte) 0).bytes((byte) 2).end()
+            .rows(257, 1, 5, 1, 0, 0, 0, 0, 0, 0, 0, 1).row(eights).row(0).by(eights, NO_DISTANCE)
+            .bytes(A).end().known(0).bytes(A).copy(3, 1).end()
+            .last(1).rowsOf(lengths(257, 'b', 1, 256, 1), NO_DISTANCE).bytes((byte) 'b').end()
+            .dueRight();
+
         Check.edge("1: 256 ends the block");
         // The end's last bit is the last one of a byte: the next byte is not read.
         for (int n = 0; n < 9; n++) {
@@ -207,6 +218,10 @@ public final class EdgesOfBlocksTest {
         Check.edge("1: and, when all are there, if 256 has none");
         blocks().rows(257, 1).row(lengths(257, 0, 1, 1, 1)).row(0).dueWrong();
         blocks().rows(258, 1).row(lengths(258, 0, 1, 257, 1)).row(1).dueWrong();
+        // By 17 and by 18, and by 16 behind them.
+        blocks().rows(257, 1).row(1, 1).times(18, 127).times(18, 107).dueWrong();
+        blocks().rows(257, 1).row(1, 1).times(18, 127).times(18, 100).times(17, 4).dueWrong();
+        blocks().rows(257, 1).row(1, 1).times(18, 127).times(18, 104).times(16, 0).dueWrong();
     }
 
     private static void fullOrOne() {

@@ -1,3 +1,4 @@
+import java.util.Arrays;
 import java.util.zip.Adler32;
 
 /** Each sentence of promises 1 to 8 and 10 to 14 that names a boundary, on both of its sides. */
@@ -343,6 +344,24 @@ public final class EdgesOfCallsTest {
             Check.due("of 1 1 1 1 2 2", six.length('a' + i), due[i]);
         }
         deepest();
+        // All bytes occur: 255 joined ones; of one tape and then of another.
+        byte[] all = new byte[256];
+        for (int i = 0; i < all.length; i++) {
+            all[i] = (byte) i;
+        }
+        PlainPacks many = Check.with(all);
+        Check.due("each of 256", many.length(0), 8);
+        Check.due("each of 256", many.length(255), 8);
+        // 0 is more than all others: 1 and 2, .. 253 and 254 are joined, then 255 to 1 and 2.
+        Check.load(many, Check.join(all, new byte[300]));
+        int[] bytes = {0, 1, 2, 3, 254, 255};
+        int[] lengths = {1, 9, 9, 9, 9, 8};
+        for (int i = 0; i < bytes.length; i++) {
+            Check.due("length(" + bytes[i] + ")", many.length(bytes[i]), lengths[i]);
+        }
+        many.end(2);
+        Check.due("of two", many.length(1), 1);
+        Check.due("no more there", many.length(2), 0);
 
         Check.edge("12: IllegalArgumentException: b is not 0 .. 255.");
         for (int b : new int[] {-1, LEAST, 256, MOST}) {

@@ -13,9 +13,11 @@ public final class EdgesOfChancesTest {
         ends();
         lastMatches();
         values();
+        evenBits();
         growth();
         pastTheTop();
         families();
+        thirdTrees();
         states();
         lengths();
         distances();
@@ -149,6 +151,21 @@ public final class EdgesOfChancesTest {
         Check.dueWrong(10, empty(0, 9, "00ffffffffffffffff"), 18, NOTHING, 0, 0, 0, 0, 0);
     }
 
+    private static void evenBits() {
+        Check.edge("10: if V is below b: 0; else 1; a PLAIN bit: if V is not below: 1");
+        // The last bit of these that is 1 leaves V at 0, so that V was just b, or just RANGE.
+        for (int b = 1; b < 256; b++) {
+            plain().letter(b).dueRight(1);
+            plain().letter(b).letter(0).dueRight(2);
+        }
+        for (int d : new int[] {129 + 16, 129 + 32, 129 + 48, 193 + 16, 193 + 32}) {
+            plain().letters(Check.some(300)).match(2, d).dueRight(302);
+        }
+        for (int bit = 4; bit < 12; bit++) {
+            grown(8193 + (1 << bit)).match(2, 8193 + (1 << bit)).dueRight(8195 + (1 << bit));
+        }
+    }
+
     private static void growth() {
         Check.edge("10: Behind each bit, if RANGE is below 2^24, it is 256 times as great");
         // Behind the last bit of these RANGE is just 2^24: no byte more is read.
@@ -200,6 +217,32 @@ public final class EdgesOfChancesTest {
                 all.dueRight(400);
                 Repeats walk = repeats(head).letters(Check.bytes(255, 0, 128));
                 walk(walk, new Random(head), 300).dueRight(walk.size());
+            }
+        }
+    }
+
+    private static void thirdTrees() {
+        Check.edge("10: with STATE from 7 on, m the byte r0 before: as long as the bits are those of "
+            + "m, by another tree for m's bit 0, a third one for 1 (the same k)");
+        // m and the byte at each end of the trees, in families beside one another.
+        int[] ends = {0, 1, 2, 127, 128, 129, 254, 255};
+        for (int head : new int[] {0, 1, 3, 4, 9, 36, 13, 184}) {
+            if (head % 9 + head / 9 % 5 <= 4) {
+                Repeats r = repeats(head);
+                for (int round = 0; round < 6; round++) {
+                    for (int m : ends) {
+                        for (int b : ends) {
+                            r.letter(m).single().letter(b).letter(255 - b);
+                        }
+                    }
+                }
+                r.dueRight(r.size());
+            }
+        }
+        // The bit that differs first is each of the eight, and none.
+        for (int m : new int[] {0, 255, 0x55, 0xAA}) {
+            for (int bit = 0; bit <= 8; bit++) {
+                plain().letter(m).single().letter(m ^ (1 << bit & 255)).dueRight(3);
             }
         }
     }
@@ -321,10 +364,12 @@ public final class EdgesOfChancesTest {
                 }
             }
         }
-        // At first all of them are 1.
+        // At first all of them are 1, which one byte is enough for.
         for (int which = 0; which < 4; which++) {
+            plain().letters(Check.text("x")).repeat(which, 3).dueRight(4);
             plain().letters(Check.text("xy")).repeat(which, 3).dueRight(5);
         }
+        plain().letters(Check.text("x")).single().dueRight(2);
         plain().letters(Check.text("xy")).single().dueRight(3);
         plain().letters(Check.text("xy")).match(2, 2).repeat(1, 2).repeat(1, 2).repeat(3, 3)
             .repeat(2, 4).dueRight(15);

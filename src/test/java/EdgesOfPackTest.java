@@ -424,6 +424,9 @@ public final class EdgesOfPackTest {
         // Behind the last bit RANGE is just 2^24, which is not below it.
         duePlainly(10, Check.text("dnivuxiakgefnygmvqrkfb"));
         duePlainly(10, Check.text("urgntameolwovrkktjzjh"));
+        // LOW's last four digits come to just 2^32 - 1, which is not 2^32.
+        duePlainly(10, Check.text("nmbhwuwiayodcmtoxugzhgrjhcwwfxhhzvbvyvuvthimnvoicurklxpawtfywg"
+            + "usazjaqwxmfnptwjgsuaumxnhcbcaqynyyznpyohzzgpyubuy"));
         // A digit of 255 becomes 0, and the one before it 1 more, of many tapes at least once.
         for (int seed = 0; seed < 60; seed++) {
             byte[] tape = Check.some(600 + seed);

@@ -317,6 +317,22 @@ public final class EdgesOfPiecesTest {
                 }
             }
         }
+        // It is told before the bytes of a length of 15 and more are read.
+        for (int flags = 0x40; flags <= 0x60; flags += 0x20) {
+            int reach = flags == 0x40 ? 3 : 1;
+            for (int d : new int[] {0, reach, reach + 1, 65535}) {
+                byte[] block = pieceBlock(Check.join(Check.bytes(0x1F, 'z'), Check.low(d, 2),
+                    Check.bytes(255, 0, 0)));
+                byte[] tape = frame(flags, first, block, NO_MORE);
+                byte[] before = Check.text("xyz");
+                if (d == reach) {
+                    byte[] output = Check.join(before, copied(before, d, 274));
+                    Check.dueRight(7, tape, output, 3, 1, 274, d, 2);
+                } else {
+                    Check.dueWrong(7, tape, 7 + 6 + 8, before, 3, 0, 0, 0, 2);
+                }
+            }
+        }
         // Nothing in the block: with bit 5 not even 1.
         byte[] at = pieceBlock(Check.bytes(0, 1, 0, 0));
         Check.dueRight(7, frame(0x40, first, at, NO_MORE), Check.text("xyyyyy"), 2, 1, 4, 1, 2);

@@ -104,6 +104,11 @@ public final class EdgesOfSortedTest {
             }
             b.dueWrong(NOTHING, 1);
         }
+        // Though two letters could have tables, and so on.
+        SortedBits empty = sorted().block(0, 0);
+        int place = empty.bits.size();
+        empty.selectors(2, 0).table(1, 1).table(1, 1).letters(Check.codes(1, 1), 0, 1).end(0)
+            .dueWrongAt(place, NOTHING, 1);
         // The first of the bytes, the last, both, those round a sixteen's end, and all of them.
         byte[] all = new byte[256];
         for (int i = 0; i < 256; i++) {
@@ -147,6 +152,8 @@ public final class EdgesOfSortedTest {
         SortedBits none = sorted().block(0, 0, 'a', 'b');
         none.bits.number(2, 3).number(0, 15);
         none.dueWrong(NOTHING, 1);
+        int place = none.bits.size();
+        none.table(TWOS).table(TWOS).letters(BY_TWO, 0, 3).end(0).dueWrongAt(place, NOTHING, 1);
         for (int n : new int[] {1, 2, 1600, 1601, 1602, 18002, 32767}) {
             twoBytes(text, 0, n).letters(BY_TWO, 0, 3).end(crc(text)).dueRight(text, 1);
         }
@@ -280,6 +287,25 @@ public final class EdgesOfSortedTest {
                     .letters(BY_TWO, Arrays.copyOf(row, 50 * (must - 1))).dueWrong(NOTHING, 1);
             }
         }
+        endlessRun();
+    }
+
+    /** A tape full of the letters of one run, which does not end: by one bit each. */
+    private static void endlessRun() {
+        int[] short0 = {1, 2, 3, 3};
+        for (int n : new int[] {1, 1400, 1402, 1500}) {
+            SortedBits b = sorted().block(0, 0, 'a', 'b').selectors(2, new int[n]).table(short0)
+                .table(TWOS);
+            b.bits.code("0".repeat(50 * n));
+            b.dueWrong(NOTHING, 1);
+        }
+        SortedBits most = sorted().block(0, 0, 'a', 'b').selectors(2, new int[1600]).table(short0)
+            .table(TWOS);
+        while (most.bits.size() < 10000) {
+            most.bits.code("0");
+        }
+        most.bits.pass();
+        Check.dueWrong(9, most.bits.bytes(), 10000, NOTHING, 0, 0, 0, 0, 1);
     }
 
     /** What last bytes b a b a .. of n put out from ORIGIN 0 on. */
@@ -395,6 +421,11 @@ public final class EdgesOfSortedTest {
                     .letters(BY_TWO, ending).dueWrong(NOTHING, 1);
             }
         }
+        // Just 16384 so far, but the run goes on.
+        for (int letter = 0; letter < 2; letter++) {
+            twoBytes(output, 0, 1).letters(BY_TWO, SortedBits.run(16384))
+                .letters(BY_TWO, letter, 3).dueWrong(NOTHING, 1);
+        }
         // A run that counts 2^64 and more, and then one that would be small again.
         twoBytes(output, 0, 2).letters(BY_TWO, SortedBits.alike(70, 0)).letters(BY_TWO, 2)
             .dueWrong(NOTHING, 1);
@@ -489,5 +520,28 @@ public final class EdgesOfSortedTest {
         }
         Check.due("a 1 is turned from the highest to the lowest", high > 0 ? 1 : 0, 1);
         all.end(sum).dueRight(output, parts.length);
+        fewerBytes();
+    }
+
+    /** Each block has its own bytes and tables: nothing of the one before it stays. */
+    private static void fewerBytes() {
+        byte[][] parts = {Check.some(200), Check.text("abcdefg"), Check.text("ab"),
+            Check.text("z"), Check.text("abcdefgabcdefg")};
+        SortedBits all = sorted();
+        int sum = 0;
+        for (byte[] part : parts) {
+            all.text(part, crc(part));
+            sum = (sum << 1 | sum >>> 31) ^ crc(part);
+        }
+        all.end(sum).dueRight(Check.join(parts), parts.length);
+        // Three tables, then two: the LENGTHS of the first block's letters 3 and 4 are gone.
+        byte[] abc = Check.text("c");
+        byte[] a = Check.text("a");
+        sorted().block(crc(abc), 0, 'a', 'b', 'c').selectors(3, 2).table(1, 2, 3, 4, 4)
+            .table(1, 2, 3, 4, 4).table(3, 3, 2, 2, 2).letters(Check.codes(3, 3, 2, 2, 2), 3, 4)
+            .block(crc(a), 0, 'a').selectors(2, 1).table(1, 2, 2).table(2, 2, 1)
+            .letters(Check.codes(2, 2, 1), 0, 2)
+            .end(crc(abc) << 1 ^ crc(abc) >>> 31 ^ crc(a))
+            .dueRight(Check.text("ca"), 2);
     }
 }

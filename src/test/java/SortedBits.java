@@ -109,6 +109,11 @@ final class SortedBits {
         }
     }
 
+    /** Wrong here already, though what stands behind it is as it should be. */
+    void dueWrongAt(int place, byte[] output, int blocks) {
+        Check.dueWrong(9, bits.bytes(), place, output, 0, 0, 0, 0, blocks);
+    }
+
     /** A block of a text, whose turnings are sorted the slow way; two tables of codes alike. */
     SortedBits text(byte[] text, int crc) {
         int n = text.length;
