@@ -284,6 +284,18 @@ public final class EdgesOfBlocksTest {
     }
 
     private static void letters() {
+        Check.edge("1: KIND 1: LENGTHS of 0 .. 143 are 8, 144 .. 255 9, 256 .. 279 7, 280 .. 287 8; "
+            + "of 32 distances 5");
+        // 0 and 143, 144 and 255; 279 and 280 with their bits, each by distance 3.
+        byte[] bytes = new Check.Bits(false).code("110").code("00110000").code("10111111")
+            .code("110010000").code("111111111").code("0010111 0000 00010")
+            .code("11000000 0000 00010").code("0000000").bytes();
+        byte[] output = Arrays.copyOf(Check.bytes(0, 143, 144, 255), 4 + 99 + 115);
+        for (int i = 4; i < output.length; i++) {
+            output[i] = output[i - 3];
+        }
+        Check.dueRight(1, bytes, output, 4, 2, 115, 3, 1);
+
         Check.edge("1: below 256 a byte");
         byte[] all = new byte[256];
         for (int i = 0; i < 256; i++) {

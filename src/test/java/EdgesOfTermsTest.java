@@ -25,6 +25,7 @@ public final class EdgesOfTermsTest {
         adlers();
         xxs();
         copies();
+        codes();
         toldBytes();
         toldCopies();
         toldBlocks();
@@ -405,6 +406,50 @@ public final class EdgesOfTermsTest {
                 new BlockBits().known(1).bytes(before).copy(10, d).dueWrong();
                 new Repeats(0, 0, 0).letters(before).matchLength(10).distance(10, d).dueWrong(14);
             }
+        }
+    }
+
+    /** The beginning of a block of KIND 2 with letters a to d and the end, without a distance. */
+    private static BlockBits lettersOf(int a, int b, int c, int d, int end) {
+        int[] row = new int[257];
+        row['a'] = a;
+        row['b'] = b;
+        row['c'] = c;
+        row['d'] = d;
+        row[256] = end;
+        return new BlockBits().rowsOf(row, new int[] {0});
+    }
+
+    private static void codes() {
+        Check.edge("shorter ones first, of one length by numbers, each next one is the one before "
+            + "and 1, with 0s behind for greater length; a code's bits come highest first");
+        // b 0, d 10, the end 110, a 1110, c 1111.
+        byte[] right = new Check.Bits(false).all(lettersOf(4, 1, 4, 2, 3).bits)
+            .code("0 10 1110 1111 10 110").bytes();
+        Check.dueRight(1, right, Check.text("bdacd"), 5, 0, 0, 0, 1);
+
+        Check.edge("They are FULL if the sum of 2 ^ -length is 1, OVER if it is more");
+        BlockBits full = lettersOf(2, 2, 3, 3, 2);
+        full.bytes(Check.text("abcd")).end().dueRight();
+        lettersOf(2, 2, 3, 2, 2).dueWrong();
+        lettersOf(2, 2, 3, 15, 2).dueWrong();
+        lettersOf(2, 2, 3, 0, 2).dueWrong();
+
+        Check.edge("it is wrong as soon as no code begins so (where there is no code at all, before "
+            + "a bit is read)");
+        for (int n = 0; n < 8; n++) {
+            // The end alone, of 1: by 1 no code begins.
+            BlockBits alone = new BlockBits().known(0).bytes(Check.highDiffering(n)).end();
+            int[] row = new int[257];
+            row[256] = 1;
+            alone.rowsOf(row, new int[] {0}).bits.code("1");
+            alone.dueWrong();
+            // A length without any distance.
+            int[] copy = new int[258];
+            copy[256] = 1;
+            copy[257] = 1;
+            new BlockBits().known(0).bytes(Check.highDiffering(n)).end()
+                .rowsOf(copy, new int[] {0}).letter(257).dueWrong();
         }
     }
 
